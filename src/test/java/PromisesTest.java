@@ -648,11 +648,31 @@ public final class PromisesTest {
         x.solve(3, 0, 0);
         x.solve(4, 0, 0);
         due("two that are one", x.near(0b11000, false, 0), 1);
+        due("20,000", drawn(4).near(0b111111111, false, 1575), 20000);
+        due("20,001", drawn(1).near(0b111111111, false, 1923), -3);
         promise = "27";
+        due("20,000", drawn(4).sure(0b111111111, false, 1575, 0, 1), 0);
+        due("20,001", drawn(1).sure(0b111111111, false, 1923, 0, 1), -3);
         OneHand y = house(0, 0, 9);
         due("spent", y.sure(0b111111111, false, 0, 0, 1), -3);
         promise = "24";
         due("best in spite of that", y.best(0b111111111, false), 0);
+    }
+
+    /** Nine DEEDS that nobody solved and eight of two HANDS, with STATES drawn from a seed. */
+    private static OneHand drawn(int seed) {
+        OneHand x = house(8, 2, 17);
+        long goes = seed;
+        for (int d = 0; d < 17; d++) {
+            if (d >= 9) {
+                x.solve(d, d % 2, d % 2);
+            }
+            for (int m = 0; m < 8; m++) {
+                goes = (goes * 1103515245L + 12345L) % (1L << 31);
+                x.tell(d, m, 1 + (int) (goes / 65536 % 2));
+            }
+        }
+        return x;
     }
 
     private static void noParting() {
