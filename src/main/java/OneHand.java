@@ -843,12 +843,11 @@ public final class OneHand {
     }
 
     private static int logOf(int v) {
-        for (int b = 24; b > 0; b--) {
-            if (v >> b > 0) {
-                return 64 * b + (64 * (v - (1 << b)) >> b);
-            }
+        int b = 0;
+        for (int k = 0; k < 30 && v >> b > 1; k++) {
+            b++;
         }
-        return 0;
+        return 64 * b + (64 * (v - (1 << b)) >> b);
     }
 
     // ---- the classes inside
@@ -1159,6 +1158,7 @@ public final class OneHand {
         final int[] tied = new int[MOST_MARKS];
         final int[] row = new int[MOST_MARKS];
         final int[] tally = new int[2 * KIND];
+        final int[] worths = new int[KIND];
         final boolean[] ready = new boolean[MOST_MARKS * 4];
 
         Likeness(Land land, Deeds deeds, Sheet sheet) {
@@ -1274,7 +1274,7 @@ public final class OneHand {
             return tally[(one ? 0 : KIND) + mark * 16 + UNKNOWN * 4 + outcome];
         }
 
-        /** COUNTS of a MARK in pairs that have an OUTCOME of its PARENT (UNKNOWN: in all), each once a sheet. */
+        /** COUNTS and WORTHS of a MARK by pairs with an OUTCOME of its PARENT (UNKNOWN: by all), each once a sheet. */
         private void tallyWith(int mark, int above) {
             if (ready[mark * 4 + above]) {
                 return;
@@ -1294,6 +1294,14 @@ public final class OneHand {
                     tallyPairs(KIND + to, there, twos[deed] & with, sheet.there[mark]);
                 }
             }
+            for (int outcome = 0; outcome < TOGETHER; outcome++) {
+                worths[to + outcome] = worthOf(to, to + outcome);
+            }
+        }
+
+        private int worthOf(int all, int some) {
+            return logOf(tally[some] + 1) - logOf(tally[all + TOGETHER] + 3)
+                    - logOf(tally[KIND + some] + 1) + logOf(tally[KIND + all + TOGETHER] + 3);
         }
 
         private void tallyPairs(int to, boolean there, long with, long allThere) {
@@ -1329,10 +1337,7 @@ public final class OneHand {
             int by = parents[mark];
             int above = by == NONE ? UNKNOWN : seen.outcomeOf(by, a, b);
             tallyWith(mark, above);
-            int one = mark * 16 + above * 4;
-            int two = KIND + one;
-            return logOf(tally[one + outcome] + 1) - logOf(tally[one + TOGETHER] + 3)
-                    - logOf(tally[two + outcome] + 1) + logOf(tally[two + TOGETHER] + 3);
+            return worths[mark * 16 + above * 4 + outcome];
         }
 
         int pairWorth(Sheet seen, int a, int b) {
@@ -1358,8 +1363,8 @@ public final class OneHand {
         int best = 0;
         int least = 0;
         int near = 0;
-        final int[] everOne = new int[MOST_PARTED];
-        final int[] everTwo = new int[MOST_PARTED];
+        long everOne = 0L;
+        long everTwo = 0L;
 
         void load(long set, Deeds deeds, Likeness likeness, Sheet seen) {
             many = 0;
@@ -1404,24 +1409,27 @@ public final class OneHand {
         void findBest() {
             found = false;
             best = 0;
-            settle(0, 0, 0, false);
+            settle(0, 0, 0, 0L, false);
         }
 
         void judgeNear(int t) {
             least = best - t;
             near = 0;
-            for (int i = 0; i < many; i++) {
-                everOne[i] = 0;
-                everTwo[i] = 0;
-            }
-            settle(0, 0, 0, true);
+            everOne = 0L;
+            everTwo = 0L;
+            settle(0, 0, 0, 0L, true);
+        }
+
+        /** The pairs of a member and all lesser ones stand from here on in a row of bits, one for each pair. */
+        private int firstPair(int member) {
+            return member * (member - 1) / 2;
         }
 
         /** Puts a member into each part that takes it, the first part first, so that rows come in order. */
-        private void settle(int member, int used, int worth, boolean judging) {
+        private void settle(int member, int used, int worth, long joins, boolean judging) {
             if (member >= many) {
                 if (judging) {
-                    judge(worth);
+                    judge(worth, joins);
                 } else {
                     compare(worth);
                 }
@@ -1432,7 +1440,8 @@ public final class OneHand {
                 if ((part & barred[member]) == 0 && (ones[member] & ~part) == 0) {
                     parts[p] = part | 1 << member;
                     row[member] = p;
-                    settle(member + 1, Math.max(used, p + 1), worth + gains[(1 << member) + part], judging);
+                    settle(member + 1, Math.max(used, p + 1), worth + gains[(1 << member) + part],
+                            joins | (long) part << firstPair(member), judging);
                     parts[p] = part;
                 }
             }
@@ -1448,25 +1457,20 @@ public final class OneHand {
             }
         }
 
-        private void judge(int worth) {
-            if (worth < least) {
-                return;
-            }
-            near++;
-            for (int i = 0; i < many; i++) {
-                everOne[i] |= parts[row[i]];
-                everTwo[i] |= ~parts[row[i]];
+        private void judge(int worth, long joins) {
+            if (worth >= least) {
+                near++;
+                everOne |= joins;
+                everTwo |= ~joins;
             }
         }
 
         int surety(int i, int j) {
-            if (i < 0 || i >= many || j < 0 || j >= many) {
-                return COULD;
-            }
-            if ((everTwo[i] >> j & 1) == 0) {
+            int pair = firstPair(Math.max(i, j)) + Math.min(i, j);
+            if (!has(everTwo, pair)) {
                 return SURELY_ONE;
             }
-            return (everOne[i] >> j & 1) == 0 ? SURELY_TWO : COULD;
+            return has(everOne, pair) ? COULD : SURELY_TWO;
         }
 
         int pairsThatCould() {
