@@ -13,6 +13,7 @@ public final class ChanceBoundsTest {
     public static void main(String[] args) {
         sets();
         looks();
+        worked();
         noLook();
         others();
         lots();
@@ -83,6 +84,71 @@ public final class ChanceBoundsTest {
         }), x -> x.look(1L << 59 | 1, false, 0, 0) * 100 + x.look(1L << 59 | 1, false, 0, 1), 5915);
     }
 
+    /** NUMBER of a LOOK, from objects that are told the answers. */
+    private static int number(Ledger.Story story, long set, int t, int deed, int mark) {
+        int number = 0;
+        for (int answer = 1; answer <= 2; answer++) {
+            int told = answer;
+            OneHand x = Ledger.made(story.then(y -> y.tell(deed, mark, told)));
+            int could = 0;
+            for (int a = 0; a < 60; a++) {
+                for (int b = a + 1; b < 60; b++) {
+                    if ((set >> a & set >> b & 1) != 0) {
+                        could += x.sure(set, false, t, a, b) == 0 ? 1 : 0;
+                    }
+                }
+            }
+            number = Math.max(number, could);
+        }
+        return number;
+    }
+
+    /** All COUNTS and THE TREE are worked anew with each answer, of SOLVED DEEDS too. */
+    private static void worked() {
+        LEDGER.promise("40");
+        for (int seed = 1; seed <= 12; seed++) {
+            long first = seed;
+            Ledger.Story story = Houses.house(3, 2, 8).then(x -> {
+                long goes = first;
+                for (int deed = 0; deed < 8; deed++) {
+                    if (deed < 6) {
+                        x.solve(deed, deed % 2, deed % 2);
+                    }
+                    for (int mark = 0; mark < 3; mark++) {
+                        goes = (goes * 1103515245L + 12345L) % (1L << 31);
+                        x.tell(deed, mark, goes / 65536 % 5 == 0 ? 0 : 1 + (int) (goes / 65536 % 2));
+                    }
+                }
+            });
+            for (long set : new long[] {0b11000011, 0b11011100}) {
+                for (int t : new int[] {0, 40, 120}) {
+                    best(story, set, t, "seed " + seed + ", set " + set + ", t " + t);
+                }
+            }
+        }
+    }
+
+    private static void best(Ledger.Story story, long set, int t, String name) {
+        OneHand asked = Ledger.made(story);
+        int least = -1;
+        int where = -1;
+        for (int deed = 0; deed < 8; deed++) {
+            for (int mark = 0; mark < 3; mark++) {
+                if ((set >> deed & 1) != 0 && asked.state(deed, mark, false) == 0) {
+                    int number = number(story, set, t, deed, mark);
+                    if (where < 0 || number < least) {
+                        least = number;
+                        where = 10 * deed + mark;
+                    }
+                }
+            }
+        }
+        int due = where;
+        LEDGER.due(name + ": where", story,
+                x -> due < 0 ? x.look(set, false, t, 0) : 10 * x.look(set, false, t, 0) + x.look(set, false, t, 1), due);
+        LEDGER.due(name + ": NUMBER", story, x -> x.look(set, false, t, 2), least);
+    }
+
     private static void noLook() {
         LEDGER.promise("40");
         for (int k = 0; k <= 2; k++) {
@@ -117,6 +183,8 @@ public final class ChanceBoundsTest {
                 x -> x.others(0, 0, false, true), 2);
         LEDGER.due("those out of WINDOW are", KNOWN.then(x -> x.window(0, 1)), x -> x.others(0, 0, false, true), 2);
         LEDGER.due("the last of 60", Houses.house(0, 0, 60).then(x -> x.bar(0, 59)), x -> x.others(0, 0, false, true), 1);
+        LEDGER.due("the first of 60", Houses.house(0, 0, 60).then(x -> x.bar(0, 59)),
+                x -> x.others(59, 0, false, false), 1);
         LEDGER.refused("no such DEED", KNOWN, x -> x.others(7, 0, false, true), Ledger.NO_SUCH);
         LEDGER.refused("DEED -1", KNOWN, x -> x.others(-1, 0, false, false), Ledger.NO_SUCH);
     }
@@ -183,6 +251,12 @@ public final class ChanceBoundsTest {
             Houses.tell(x, 0, 1, 2, 1);
             Houses.tell(x, 1, 1, 2, 1);
         });
+        Ledger.Story last = Houses.house(2, 1, 3).then(x -> {
+            x.solve(0, 0, 0);
+            x.solve(1, 0, 0);
+            Houses.tell(x, 0, 2, 1, 1);
+            Houses.tell(x, 1, 2, 1, 1);
+        });
         for (int seed : new int[] {0, 1, 2, 3, 65535, 65536, 1 << 30, Integer.MAX_VALUE - 1, Integer.MAX_VALUE}) {
             for (int times : new int[] {1, 2, 19, 20}) {
                 long x = seed;
@@ -197,6 +271,8 @@ public final class ChanceBoundsTest {
                 int most = Ledger.made(both).worth(0, 1, false);
                 LEDGER.due("seed " + seed + ", " + times + " times", both,
                         y -> y.lots(0, most, seed, times, false), often);
+                LEDGER.due("for the last DEED, seed " + seed + ", " + times + " times", last,
+                        y -> y.lots(2, most, seed, times, false), often);
             }
         }
     }

@@ -138,6 +138,12 @@ public final class DeedBoundsTest {
         LEDGER.due("by none", three, x -> x.are(0, 1), 0);
         LEDGER.due("by both, the other way", three.then(x -> x.solve(1, 1, 0)), x -> x.are(0, 1), 1);
         LEDGER.alike("by none again", Houses.house(1, 3, 3), three.then(x -> x.solve(0, -1, -1)), true);
+        LEDGER.due("one of them by none again", three.then(x -> x.solve(1, 2, 2)).then(x -> x.solve(0, -1, -1)),
+                x -> x.are(0, 1), 0);
+        LEDGER.due("the other one by none again", three.then(x -> x.solve(1, 2, 2)).then(x -> x.solve(1, -1, -1)),
+                x -> x.are(0, 1), 0);
+        LEDGER.due("one of them by another one", three.then(x -> x.solve(1, 0, 0)).then(x -> x.solve(1, 2, 2)),
+                x -> x.are(0, 1), 2);
         LEDGER.alike("by one that is said twice", three.then(x -> x.solve(0, 1, 1)),
                 Houses.house(1, 3, 3).then(x -> x.solve(0, 1, 1)), true);
         int[][] wrong = {{3, 0}, {0, 3}, {-2, -2}, {-1, 0}, {0, -1}, {-1, 3}, {3, -1}, {20, 20}, {-1, -2}};

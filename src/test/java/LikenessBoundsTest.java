@@ -93,6 +93,16 @@ public final class LikenessBoundsTest {
         LEDGER.due("10 of 15 ONE, none there, down", seven, x -> x.span(0, true, 0, false, false), 588);
         LEDGER.due("10 of 15 ONE, none there, up", seven, x -> x.span(0, true, 0, false, true), 706);
         LEDGER.due("0 of 15 ONE, both there, up", seven, x -> x.span(0, true, 2, false, true), 118);
+        Ledger.Story alike = seven.then(x -> Houses.tell(x, 0, 2, 2, 2, 2, 2));
+        LEDGER.due("15 of 15 ONE, both there, down", alike, x -> x.span(0, true, 2, false, false), 882);
+        LEDGER.due("15 of 15 ONE, both there, up", alike, x -> x.span(0, true, 2, false, true), 1000);
+        Ledger.Story six = Houses.house(1, 2, 6).then(x -> {
+            Houses.solve(x, 0, 0, 4);
+            x.solve(5, 1, 1);
+            Houses.tell(x, 0, 1, 1, 1, 1, 2, 2);
+        });
+        LEDGER.due("6,000 by 7, one above 5,999, up", six, x -> x.span(0, false, 1, false, true), 858);
+        LEDGER.due("4,000 by 7, down", six, x -> x.span(0, false, 1, false, false), 571);
         LEDGER.due("0 of 6 BARRED, none there, up", seven, x -> x.span(0, false, 0, false, true), 250);
     }
 
@@ -136,6 +146,11 @@ public final class LikenessBoundsTest {
         LEDGER.promise("21");
         LEDGER.due("WEIGHT 1 is above 0", weighed(1, 0, 0, 1), x -> x.parent(1, false), 0);
         LEDGER.due("WEIGHT 0 is not", weighed(1, 1, 1, 1), x -> x.parent(1, false), -1);
+        LEDGER.due("nor is the other one's", weighed(1, 1, 1, 1), x -> x.parent(0, false), -1);
+        for (int mark = 0; mark < 16; mark++) {
+            int m = mark;
+            LEDGER.due("MARK " + mark + " of sixteen that hang on none", Houses.house(16, 0, 2), x -> x.parent(m, true), -1);
+        }
         LEDGER.due("the least one is the root", weighed(1, 0, 0, 1), x -> x.parent(0, false), -1);
         LEDGER.refused("no such MARK", weighed(1, 0, 0, 1), x -> x.parent(2, false), Ledger.NO_SUCH);
         LEDGER.refused("MARK -1", weighed(1, 0, 0, 1), x -> x.parent(-1, false), Ledger.NO_SUCH);

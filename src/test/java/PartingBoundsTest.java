@@ -77,6 +77,10 @@ public final class PartingBoundsTest {
         LEDGER.refused("no PARTING, not two of the set", chain, x -> x.sure(7, false, 0, 0, 3), Ledger.ARGUMENT);
         LEDGER.refused("no PARTING, t -1", chain, x -> x.sure(7, false, -1, 0, 1), Ledger.ARGUMENT);
         LEDGER.promise("24");
+        LEDGER.due("no PARTING behind another set's", chain, x -> x.best(11, false) + Ledger.answer(x, y -> y.best(7, false)),
+                "0IllegalStateException");
+        LEDGER.due("a PARTING behind a set without", chain, x -> Ledger.answer(x, y -> y.best(7, false)) + x.best(11, false),
+                "IllegalStateException0");
         LEDGER.due("told to be barred, but ONE", chain.then(x -> x.bar(0, 2)), x -> x.best(5, false), 0);
     }
 
@@ -248,29 +252,78 @@ public final class PartingBoundsTest {
         sums();
     }
 
-    /** 4 and 5 are alike in MARK 0 and 1; 6 is like 4 in both, and unlike 5 in a MARK that 4 has not. */
-    private static void sums() {
-        Ledger.Story all = Houses.house(2, 2, 7).then(x -> {
-            Houses.solve(x, 0, 0, 1);
-            Houses.solve(x, 1, 2, 3);
-            Houses.tell(x, 0, 2, 2, 1, 1, 2, 2, 2);
-            Houses.tell(x, 1, 2, 2, 2, 1, 0, 2, 1);
-        });
-        int first = Ledger.made(all).worth(4, 6, false);
-        int other = Ledger.made(all).worth(5, 6, false);
-        LEDGER.due("WORTH of 4 and 6 is above 0", all, x -> first > 0, true);
-        Ledger.Story three = all.then(x -> {
-            for (int deed = 0; deed < 4; deed++) {
-                for (int b = 4; b < 7; b++) {
-                    x.bar(deed, b);
+    /** Eleven DEEDS, six of them of two HANDS, with STATES of three MARKS that are drawn by a seed. */
+    private static Ledger.Story mixed(int seed) {
+        return Houses.house(3, 2, 11).then(x -> {
+            long goes = seed;
+            for (int deed = 0; deed < 11; deed++) {
+                goes = (goes * 1103515245L + 12345L) % (1L << 31);
+                if (goes / 65536 % 11 < 6) {
+                    x.solve(deed, deed % 2, deed % 2);
+                }
+                for (int mark = 0; mark < 3; mark++) {
+                    goes = (goes * 1103515245L + 12345L) % (1L << 31);
+                    x.tell(deed, mark, (int) (goes / 65536 % 7 + 1) / 2);
                 }
             }
+            x.bar(0, 10);
+            x.bar(3, 4);
         });
-        int most = Ledger.made(three).worth(4, 5, false);
-        int sum = Ledger.made(three).worth(4, 6, false) + Ledger.made(three).worth(5, 6, false);
-        LEDGER.due("WORTH of 4 and 5 is above that of 5 and 6", three, x -> most > x.worth(5, 6, false), true);
-        LEDGER.due("WORTH of all pairs between two groups together (" + sum + ", of " + first + " and " + other + ")",
-                three, x -> x.joined(6, false), sum > 0 ? 4 : 6);
+    }
+
+    /** Who is of whose group, by WORTH and by what two DEEDS are. */
+    private static int[] groups(OneHand x) {
+        int[] heads = new int[11];
+        int[][] worths = new int[11][11];
+        boolean[][] barred = new boolean[11][11];
+        for (int a = 0; a < 11; a++) {
+            heads[a] = a;
+            for (int b = 0; b < a; b++) {
+                worths[a][b] = worths[b][a] = x.worth(a, b, false);
+                barred[a][b] = barred[b][a] = x.are(a, b) == 2;
+            }
+        }
+        boolean joins = true;
+        while (joins) {
+            joins = joinOnce(heads, worths, barred);
+        }
+        return heads;
+    }
+
+    private static boolean joinOnce(int[] heads, int[][] worths, boolean[][] barred) {
+        int most = 0;
+        int[] two = null;
+        for (int a = 0; a < 11; a++) {
+            for (int b = a + 1; b < 11; b++) {
+                int together = heads[a] == a && heads[b] == b ? 0 : Integer.MIN_VALUE;
+                for (int i = 0; i < 11 && together != Integer.MIN_VALUE; i++) {
+                    for (int j = 0; j < 11 && together != Integer.MIN_VALUE; j++) {
+                        if (heads[i] == a && heads[j] == b) {
+                            together = barred[i][j] ? Integer.MIN_VALUE : together + worths[i][j];
+                        }
+                    }
+                }
+                if (together > most) {
+                    most = together;
+                    two = new int[] {a, b};
+                }
+            }
+        }
+        for (int i = 0; i < 11 && two != null; i++) {
+            heads[i] = heads[i] == two[1] ? two[0] : heads[i];
+        }
+        return two != null;
+    }
+
+    private static void sums() {
+        for (int seed = 1; seed <= 40; seed++) {
+            int[] due = groups(Ledger.made(mixed(seed)));
+            OneHand x = Ledger.made(mixed(seed));
+            for (int k = 0; k < 11; k++) {
+                int deed = k;
+                LEDGER.due("DEED " + k + " by seed " + seed, x, y -> y.joined(deed, false), due[k]);
+            }
+        }
     }
 
     private static void bound() {

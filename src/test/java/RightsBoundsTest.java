@@ -7,6 +7,7 @@ public final class RightsBoundsTest {
     public static void main(String[] args) {
         feeds();
         texts();
+        again();
         bytes();
         words();
         numbers();
@@ -76,6 +77,26 @@ public final class RightsBoundsTest {
         long300("300 digits", "1".repeat(300), -11);
     }
 
+    /** TEXTS one after another leave nothing of themselves behind. */
+    private static void again() {
+        LEDGER.promise("44");
+        OneHand x = Ledger.made(Houses.house(0, 0, 1));
+        for (int k = 0; k < 10; k++) {
+            int add = k;
+            LEDGER.due("300 bytes, time " + k, x, y -> Houses.text(y, "keep " + add + "+1".repeat(146) + ";"), 1);
+            LEDGER.due("what they say", x, y -> y.kept(0), 146 + add);
+            LEDGER.due("a FAULT at the end of them", x, y -> Houses.text(y, "keep 5" + "+1".repeat(146)), -12);
+            LEDGER.due("its place", x, y -> y.fault(1), 298);
+            LEDGER.due("what they said", x, y -> y.kept(0), 146 + add);
+        }
+        Ledger.Story not = HOUSE.then(Houses.rights("let if not 1=1;")).then(Houses.rights("let if 1=1;"));
+        LEDGER.due("a TEST behind a longer one", not, y -> y.may(0, 0), true);
+        Ledger.Story more = HOUSE.then(Houses.rights("keep 1+2+3 if 1=1;")).then(Houses.rights("keep 1+2 if 1=1;"));
+        LEDGER.due("a SUM behind a longer one", more, y -> y.kept(0), 3);
+        LEDGER.due("a short one", x, y -> Houses.text(y, "keep 3 if 1=2;keep 7;"), 2);
+        LEDGER.due("what it says", x, y -> y.kept(0), 7);
+    }
+
     private static void long300(String name, String text, int due) {
         LEDGER.due(name + " are " + text.length(), NEW, x -> Houses.text(x, text), due);
     }
@@ -96,8 +117,27 @@ public final class RightsBoundsTest {
         }
     }
 
+    /** Each word with one letter less, or with another one in the place of one, where the word may stand. */
+    private static void spoiled() {
+        String[] words = {"let", "bar", "keep", "if", "or", "and", "not", "rank", "land", "age", "solved", "doubted",
+            "there", "links"};
+        String[] ahead = {"", "", "", "let ", "let if 1=1 ", "let if 1=1 ", "let if ", "keep ", "keep ", "keep ", "keep ",
+            "keep ", "keep ", "keep "};
+        for (int word = 0; word < words.length; word++) {
+            int place = ahead[word].length();
+            for (int k = 0; k < words[word].length(); k++) {
+                String head = words[word].substring(0, k);
+                String tail = words[word].substring(k + 1);
+                faulty(ahead[word] + head + "q" + tail + " ;", 2, place);
+                faulty(ahead[word] + head + tail + " ;", 2, place);
+                faulty(ahead[word] + head + words[word].charAt(k) + "q" + tail + " ;", 2, place);
+            }
+        }
+    }
+
     private static void words() {
         LEDGER.promise("44");
+        spoiled();
         for (String name : new String[] {"rank", "land", "age", "solved", "doubted", "there", "links"}) {
             faulty("keep " + name + "+1;", 0, -1);
             faulty("let if " + name + "=" + name + ";", 0, -1);
@@ -429,6 +469,14 @@ public final class RightsBoundsTest {
         lets("let if [1=1 or 1=2] and 1=2;", false);
         lets("let if not 1=2 and 1=1;", true);
         lets("let if not not 1=1;", true);
+        lets("let if 1<2 and 1=1;", true);
+        lets("let if 1=1 and 2>1;", true);
+        lets("let if 1<2 and 2>1 or 1=2;", true);
+        lets("let if not 1<2;", false);
+        lets("let if not 2>1;", false);
+        lets("let if not 2<1;", true);
+        lets("let if not 1>2;", true);
+        lets("let if [1<2] and [2>1];", true);
         lets("let if not not not 1=1;", false);
         String two62 = "32768*32768*32768*32768*4";
         lets("let if " + two62 + ">0;", true);
@@ -456,6 +504,14 @@ public final class RightsBoundsTest {
             LEDGER.idle("DEED " + k, own, x -> x.ask(0, k, 0), -1);
             LEDGER.idle("MARK " + k, own, x -> x.ask(0, 0, k), -1);
         }
+        Ledger.Story all = HOUSE.then(Houses.rights("let;"));
+        LEDGER.due("everybody is LET", all, x -> x.ask(1, 1, 1), 0);
+        for (int k : new int[] {-1, 2, 9, 10, 15, 16, 60, 64, Integer.MIN_VALUE, Integer.MAX_VALUE}) {
+            LEDGER.due("OFFICER " + k + " when everybody is LET", all, x -> x.ask(k, 0, 0), -1);
+            LEDGER.due("DEED " + k + " when everybody is LET", all, x -> x.ask(0, k, 0), -1);
+            LEDGER.due("MARK " + k + " when everybody is LET", all, x -> x.ask(0, 0, k), -1);
+        }
+        LEDGER.due("a FORGOTTEN DEED when everybody is LET", all.then(x -> x.forget(0)), x -> x.ask(0, 0, 0), -1);
         LEDGER.due("a FORGOTTEN DEED", own.then(x -> x.forget(0)), x -> x.ask(0, 0, 0), -1);
         LEDGER.due("a MARK could not be seen", own.then(x -> x.tell(0, 0, 3)), x -> x.ask(0, 0, 0), 3);
     }

@@ -67,7 +67,8 @@ public final class TrailBoundsTest {
             x.deed(0, 100, 200);
             x.deed(1, 100, 100);
         });
-        LEDGER.due("of like HOURS by number", three.then(x -> Houses.solve(x, 0, 1, 3)), x -> x.moves(3, 0), 2);
+        LEDGER.due("of like HOURS by number", three.then(x -> Houses.solve(x, 0, 0, 2)),
+                x -> 10 * x.moves(3, 1) + x.moves(3, 0), 11);
         LEDGER.due("by the HOUR from which they are", three.then(x -> x.deed(0, 50, 500)).then(x -> {
             x.solve(1, 0, 0);
             x.solve(3, 0, 0);
@@ -301,6 +302,16 @@ public final class TrailBoundsTest {
             Houses.solve(x, 0, 0, 1);
             Houses.tell(x, 0, 2, 2, 2, 0);
         }), x -> !x.stopped(0, false) && !x.stopped(2, false) && x.stopped(3, false), true);
+        LEDGER.due("the latest from is HOUR 0", Houses.house(1, 1, 1).then(x -> {
+            x.deed(0, 100, 100);
+            Houses.solve(x, 0, 0, 1);
+            x.go(1);
+        }), x -> x.stopped(0, false), true);
+        LEDGER.due("DEED 0 is the latest", Houses.house(1, 1, 0).then(x -> {
+            x.deed(0, 50, 50);
+            x.deed(0, 0, 0);
+            Houses.solve(x, 0, 0, 1);
+        }), x -> x.stopped(0, false), false);
         Ledger.Story doubted = long50.then(x -> x.doubt(2, true));
         LEDGER.refused("it is DOUBTED", doubted, x -> x.stopped(2, false), Ledger.STATE);
         LEDGER.refused("it is DOUBTED, without a STEP", none.then(x -> x.doubt(0, true)), x -> x.stopped(0, false),
@@ -371,6 +382,8 @@ public final class TrailBoundsTest {
         LEDGER.due("one of them DOUBTED", two.then(x -> x.doubt(0, true)), x -> x.homes(198, true) + x.homes(0, false), 0);
         LEDGER.due("one of them FORGOTTEN", two.then(x -> x.forget(0)), x -> x.homes(198, true) + x.homes(0, false), 0);
         LEDGER.due("a HAND without a HOME", step(9, 0), x -> x.homes(198, true) + x.homes(198, false), 0);
+        LEDGER.due("HAND 0", Houses.house(0, 0, 2).then(x -> x.hand(0)).then(x -> Houses.solve(x, 0, 0, 1)),
+                x -> x.homes(0, true), 1);
         LEDGER.due("the 20th HAND", two.then(x -> {
             for (int k = 2; k < 20; k++) {
                 x.hand(0);
