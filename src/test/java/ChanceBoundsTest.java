@@ -14,6 +14,7 @@ public final class ChanceBoundsTest {
         sets();
         looks();
         worked();
+        answers();
         noLook();
         others();
         lots();
@@ -128,6 +129,40 @@ public final class ChanceBoundsTest {
         }
     }
 
+    /** One LOOK alone, at two DEEDS: each of both answers makes them COULD be from a t of its own on. */
+    private static void answers() {
+        LEDGER.promise("40");
+        boolean[] greater = new boolean[3];
+        for (int seed = 1; seed <= 12; seed++) {
+            long first = seed;
+            Ledger.Story story = Houses.house(1, 2, 12).then(x -> {
+                long goes = first;
+                for (int deed = 0; deed < 11; deed++) {
+                    if (deed < 10) {
+                        x.solve(deed, deed % 2, deed % 2);
+                    }
+                    goes = (goes * 1103515245L + 12345L) % (1L << 31);
+                    x.tell(deed, 0, 1 + (int) (goes / 65536 % 2));
+                }
+            });
+            int[] far = new int[3];
+            for (int answer = 1; answer <= 2; answer++) {
+                int told = answer;
+                far[answer] = Math.abs(Ledger.made(story.then(x -> x.tell(11, 0, told))).worth(10, 11, false));
+            }
+            greater[1] |= far[1] > far[2];
+            greater[2] |= far[2] > far[1];
+            for (int t : new int[] {far[1], far[2]}) {
+                LEDGER.due("seed " + seed + ", t " + t, story, x -> x.look(0b11L << 10, false, t, 2), 1);
+            }
+            int least = Math.min(far[1], far[2]);
+            if (least > 0) {
+                LEDGER.due("seed " + seed + ", less than both", story, x -> x.look(0b11L << 10, false, least - 1, 2), 0);
+            }
+        }
+        LEDGER.due("each answer is the one that settles less at times", x -> { }, x -> greater[1] && greater[2], true);
+    }
+
     private static void best(Ledger.Story story, long set, int t, String name) {
         OneHand asked = Ledger.made(story);
         int least = -1;
@@ -213,10 +248,24 @@ public final class ChanceBoundsTest {
         }
         Ledger.Story doubted = KNOWN.then(x -> x.doubt(0, true));
         LEDGER.refused("it is DOUBTED", doubted, x -> x.lots(0, 0, 0, 1, false), Ledger.STATE);
+        LEDGER.refused("DEED 1 is DOUBTED", KNOWN.then(x -> x.doubt(1, true)), x -> x.lots(1, 0, 0, 1, false), Ledger.STATE);
+        LEDGER.due("DEED 1 is DOUBTED, but 0 is not", KNOWN.then(x -> x.doubt(1, true)),
+                x -> x.lots(0, 1, 1, 1, false) + x.lots(0, 0, 1, 1, false) + x.lots(2, 0, 1, 1, false) >= 0, true);
         LEDGER.refused("it is DOUBTED, seed -1", doubted, x -> x.lots(0, 0, -1, 1, false), Ledger.ARGUMENT);
         LEDGER.refused("it is DOUBTED, 21 times", doubted, x -> x.lots(0, 0, 0, 21, false), Ledger.ARGUMENT);
         LEDGER.refused("no such DEED", KNOWN, x -> x.lots(7, 0, 0, 1, false), Ledger.NO_SUCH);
         LEDGER.refused("no such DEED, seed -1", KNOWN, x -> x.lots(-1, 0, -1, 0, false), Ledger.NO_SUCH);
+        Ledger.Story alone = Houses.house(1, 2, 6).then(x -> {
+            Houses.solve(x, 0, 0, 1);
+            x.solve(2, 1, 1);
+            Houses.tell(x, 0, 2, 2, 1, 1, 1, 2);
+        });
+        int like = Ledger.made(alone).worth(0, 1, false);
+        Ledger.Story less = alone.then(x -> x.doubt(5, true)).then(x -> x.forget(1));
+        int left = Ledger.made(less).worth(0, 2, false);
+        LEDGER.due("others without the MARK alone", less, x -> x.lots(0, left + 1, 3, 20, false), 0);
+        LEDGER.due("those dealt in a call ahead are not dealt again", alone.then(x -> x.lots(0, like, 3, 20, false))
+                .then(x -> x.doubt(5, true)).then(x -> x.forget(1)), x -> x.lots(0, left + 1, 3, 20, false), 0);
         LEDGER.idle("what is dealt is told of none", KNOWN, x -> x.lots(0, most, 77, 20, true), 20);
     }
 
@@ -241,6 +290,34 @@ public final class ChanceBoundsTest {
                     x -> x.lots(0, x.worth(0, 1, false), seed, 20, false), 20);
         }
         walks();
+        lotsOfMany();
+    }
+
+    /** A seed behind which x has this rest by 65,536. */
+    private static int before(int rest) {
+        int seed = 0;
+        while ((seed * 1103515245L + 12345L) % 65536 != rest) {
+            seed++;
+        }
+        return seed;
+    }
+
+    /** Of 59 others one alone has the MARK, now this one, now that one; without it WORTH is below 0. */
+    private static void lotsOfMany() {
+        LEDGER.promise("42");
+        for (int first : new int[] {59, 40, 3}) {
+            Ledger.Story many = Houses.house(2, 1, 60).then(x -> {
+                Houses.solve(x, 0, 1, 2);
+                x.bar(0, 1);
+                for (int deed = 0; deed < 60; deed++) {
+                    x.tell(deed, 0, deed == 0 || deed == first ? 2 : 1);
+                }
+            });
+            LEDGER.due("one of the others has it", many, x -> x.worth(0, first, false), 0);
+            LEDGER.due("others have not", many, x -> x.worth(0, 1, false), -64);
+            LEDGER.due("some of all others, " + first + " at first", many, x -> x.lots(0, 0, 12345, 20, false), 20);
+            LEDGER.due("none is worth more", many, x -> x.lots(0, 1, 12345, 20, false), 0);
+        }
     }
 
     /** DEED 1 has both MARKS of DEED 0, DEED 2 none: both again, if both MARKS are dealt alike. */
@@ -257,7 +334,8 @@ public final class ChanceBoundsTest {
             Houses.tell(x, 0, 2, 1, 1);
             Houses.tell(x, 1, 2, 1, 1);
         });
-        for (int seed : new int[] {0, 1, 2, 3, 65535, 65536, 1 << 30, Integer.MAX_VALUE - 1, Integer.MAX_VALUE}) {
+        for (int seed : new int[] {0, 1, 2, 3, 65535, 65536, 1 << 30, Integer.MAX_VALUE - 1, Integer.MAX_VALUE,
+            before(0), before(65535), before(1), before(65534)}) {
             for (int times : new int[] {1, 2, 19, 20}) {
                 long x = seed;
                 int often = 0;

@@ -68,6 +68,20 @@ public final class DeedBoundsTest {
             LEDGER.due("what it was", one.then(x -> x.tell(0, 1, state)), x -> x.tell(0, 1, 3 - state), k);
             LEDGER.due("another MARK's is as it was", one.then(x -> x.tell(0, 1, state)), x -> x.state(0, 0, true), 0);
         }
+        Ledger.Story four = Houses.house(3, 0, 4);
+        for (int k = 0; k < 16; k++) {
+            int before = k / 4;
+            int state = k % 4;
+            Ledger.Story told = four.then(x -> Houses.tell(x, 1, before, before, before, before))
+                    .then(x -> x.tell(1, 1, state));
+            for (int cell = 0; cell < 12; cell++) {
+                int deed = cell / 3;
+                int mark = cell % 3;
+                int due = mark != 1 ? 0 : deed == 1 ? state : before;
+                LEDGER.due("STATE " + state + " in place of " + before + ": DEED " + deed + ", MARK " + mark, told,
+                        x -> 10 * x.state(deed, mark, false) + x.state(deed, mark, true), 11 * due);
+            }
+        }
         for (int k : new int[] {-1, 4, Integer.MIN_VALUE, Integer.MAX_VALUE}) {
             LEDGER.refused("STATE " + k, one, x -> x.tell(0, 0, k), Ledger.ARGUMENT);
         }
@@ -111,6 +125,20 @@ public final class DeedBoundsTest {
             x.link(0, 2, 3);
             x.tell(2, 0, 1);
         });
+        Ledger.Story between = Houses.house(1, 0, 6).then(x -> {
+            x.officer(0, 0);
+            x.link(0, 2, 3);
+            x.link(0, 3, 2);
+            for (int deed = 0; deed < 6; deed++) {
+                x.tell(deed, 0, 2);
+            }
+        });
+        for (int k = 0; k < 6; k++) {
+            int deed = k;
+            LEDGER.due("DEED " + k + " with LINKS of 2 and 3", between, x -> x.state(deed, 0, false), k / 2 == 1 ? 0 : 2);
+            LEDGER.due("LINKS of DEED " + k, between.then(Houses.rights("keep 5+links;")), x -> x.kept(deed),
+                    k / 2 == 1 ? 7 : 5);
+        }
         LEDGER.due("a LINK that found no room makes nothing LATE", full, x -> x.state(2, 0, false), 1);
         Ledger.Story refused = linked.then(x -> Ledger.answer(x, y -> y.link(0, 2, 2))).then(x -> x.tell(2, 0, 1));
         LEDGER.due("nor does one that throws", refused, x -> x.state(2, 0, false), 1);
@@ -123,6 +151,11 @@ public final class DeedBoundsTest {
         LEDGER.due("as it was", one.then(x -> x.doubt(1, true)), x -> x.doubt(1, true), true);
         LEDGER.due("of another DEED", one.then(x -> x.doubt(1, true)), x -> x.doubt(0, false), false);
         LEDGER.idle("not, as it was", one, x -> x.doubt(1, false), false);
+        Ledger.Story both = one.then(x -> x.doubt(0, true)).then(x -> x.doubt(1, true));
+        LEDGER.due("both are DOUBTED", both, x -> x.number(6), 0);
+        LEDGER.due("the first one is so still", both, x -> x.doubt(0, true), true);
+        LEDGER.due("the other one is so still", both.then(x -> x.doubt(0, false)), x -> x.doubt(1, true), true);
+        LEDGER.due("one of them is not any more", both.then(x -> x.doubt(0, false)), x -> x.number(6), 1);
         LEDGER.alike("DOUBTED and not again", one, one.then(x -> x.doubt(1, true)).then(x -> x.doubt(1, false)), true);
         LEDGER.alike("DOUBTED", one, one.then(x -> x.doubt(1, true)), false);
         LEDGER.refused("no such DEED", one, x -> x.doubt(2, true), Ledger.NO_SUCH);
@@ -144,6 +177,11 @@ public final class DeedBoundsTest {
                 x -> x.are(0, 1), 0);
         LEDGER.due("one of them by another one", three.then(x -> x.solve(1, 0, 0)).then(x -> x.solve(1, 2, 2)),
                 x -> x.are(0, 1), 2);
+        Ledger.Story last = Houses.house(1, 20, 3).then(x -> x.solve(0, 19, 18)).then(x -> x.solve(1, 19, 19));
+        LEDGER.due("by the 20th HAND", last, x -> 10 * x.are(0, 1) + x.are(1, 0), 11);
+        LEDGER.due("not any more by the 20th HAND", last.then(x -> x.solve(0, 18, 18)),
+                x -> 10 * x.are(0, 1) + x.are(1, 0), 22);
+        LEDGER.due("not any more by any", last.then(x -> x.solve(0, -1, -1)), x -> 10 * x.are(0, 1) + x.are(1, 0), 0);
         LEDGER.alike("by one that is said twice", three.then(x -> x.solve(0, 1, 1)),
                 Houses.house(1, 3, 3).then(x -> x.solve(0, 1, 1)), true);
         int[][] wrong = {{3, 0}, {0, 3}, {-2, -2}, {-1, 0}, {0, -1}, {-1, 3}, {3, -1}, {20, 20}, {-1, -2}};
@@ -176,6 +214,7 @@ public final class DeedBoundsTest {
         LEDGER.due("ONE, so not BARRED", told.then(x -> x.solve(1, 0, 0)), x -> x.are(0, 1), 1);
         LEDGER.due("told stays told", told.then(x -> x.solve(1, 0, 0)).then(x -> x.solve(1, -1, -1)),
                 x -> x.are(0, 1), 2);
+        LEDGER.due("told, and both SOLVED", told.then(x -> x.solve(1, 1, 1)), x -> x.are(0, 1), 2);
         LEDGER.due("DOUBTED ones as well", told.then(x -> x.doubt(0, true)), x -> x.are(0, 1), 2);
         LEDGER.refused("both are one", three, x -> x.are(2, 2), Ledger.ARGUMENT);
         LEDGER.refused("both are one that is none", three, x -> x.are(3, 3), Ledger.NO_SUCH);
@@ -199,10 +238,38 @@ public final class DeedBoundsTest {
         LEDGER.due("3 HOURS the other way", hours(1, 1, 1, 4), x -> x.are(0, 1), 0);
         LEDGER.due("2 HOURS the other way", hours(1, 1, 1, 3), x -> x.are(0, 1), 2);
         LEDGER.due("and back", hours(1, 1, 1, 3), x -> x.are(1, 0), 2);
+        LEDGER.due("APART, and told to be barred", hours(1, 1, 1, 3).then(x -> x.bar(1, 0)), x -> x.are(0, 1), 2);
+        LEDGER.due("APART, and both SOLVED", hours(1, 1, 1, 3).then(x -> x.hand(0)).then(x -> {
+            x.solve(0, 0, 0);
+            x.solve(1, 1, 1);
+        }), x -> x.are(0, 1), 2);
+        apartOfMany();
         Ledger.Story one = hours(1, 1, 1, 1).then(x -> Houses.solve(x, 0, 0, 1));
         LEDGER.due("APART, but ONE", one, x -> x.are(0, 1), 1);
         LEDGER.due("ONE and so not BARRED: pairs", one, x -> 10 * x.number(11) + x.number(12), 10);
         LEDGER.due("APART again when not ONE", one.then(x -> x.solve(0, -1, -1)), x -> x.are(0, 1), 2);
+    }
+
+    /** DEEDS 0 to 4 at once at PLACES of their own, 5 at HOUR 50. */
+    private static void apartOfMany() {
+        Ledger.Story many = x -> {
+            for (int k = 0; k < 5; k++) {
+                x.place(10 * k, k, 0);
+            }
+            x.go(50);
+            for (int k = 0; k < 5; k++) {
+                x.deed(k, 0, 0);
+            }
+            x.deed(0, 50, 50);
+        };
+        for (int k = 0; k < 36; k++) {
+            int a = k / 6;
+            int b = k % 6;
+            if (a != b) {
+                LEDGER.due("DEEDS " + a + " and " + b + " of many", many, x -> x.are(a, b), a < 5 && b < 5 ? 2 : 0);
+            }
+        }
+        LEDGER.due("pairs that are APART", many, x -> x.number(12), 10);
     }
 
     /** Two DEEDS with a DISTANCE of 12, which takes 3 HOURS. */
@@ -344,6 +411,18 @@ public final class DeedBoundsTest {
         }
         LEDGER.due("all at first", four, x -> x.number(11), 6);
         LEDGER.alike("0 to 99,999 at first", four, four.then(x -> x.window(0, 99999)), true);
+        Ledger.Story latest = x -> {
+            x.place(0, 0, 0);
+            x.hand(0);
+            for (int k = 0; k < 10; k++) {
+                x.go(k < 9 ? 10000 : 9999);
+            }
+            x.deed(0, 99999, 99999);
+            x.deed(0, 0, 99999);
+            Houses.solve(x, 0, 0, 1);
+        };
+        LEDGER.due("HOURS 0 and 99,999 are in it at first", latest, x -> x.number(11), 1);
+        LEDGER.due("HOUR 99,999 is not in a lesser one", latest.then(x -> x.window(0, 99998)), x -> x.number(11), 0);
         LEDGER.due("its first HOUR is in it", four.then(x -> x.window(2, 99999)), x -> x.number(11), 1);
         LEDGER.due("its last HOUR is in it", four.then(x -> x.window(0, 1)), x -> x.number(11), 1);
         LEDGER.due("from 0 to 0", four.then(x -> x.window(0, 0)), x -> x.number(11), 0);

@@ -123,6 +123,21 @@ public final class LandBoundsTest {
         LEDGER.due("its age comes to KEEP", keeps, x -> x.go(99) + 10 * x.number(6), 11);
         LEDGER.due("both come to it", keeps, x -> x.go(100) + 10 * x.number(6), 2);
         LEDGER.due("numbers stay", keeps.then(x -> x.go(100)), x -> x.number(5), 2);
+        Ledger.Story some = Houses.house(0, 1, 4).then(Houses.rights("keep 5 if solved=0;")).then(x -> x.solve(0, 0, 0))
+                .then(x -> x.solve(2, 0, 0));
+        LEDGER.due("those whose KEEP it is alone", some.then(x -> x.go(5)), x -> x.go(1) * 10 + x.number(6), 2);
+        LEDGER.due("how many of them", some, x -> x.go(5), 2);
+        LEDGER.due("the others are there", some.then(x -> x.go(5)), x -> x.are(0, 2), 1);
+        LEDGER.due("age is by TOLD of each", x -> {
+            x.place(0, 0, 0);
+            x.deed(0, 0, 0);
+            x.go(10);
+            x.deed(0, 0, 0);
+            x.deed(0, 5, 5);
+            x.go(3);
+            x.deed(0, 0, 0);
+            Houses.text(x, "keep 5 if age<10; keep 99 if age>9;");
+        }, x -> 100 * x.go(1) + 10 * x.go(1) + x.go(2), 20);
         LEDGER.refused("a go that throws", keeps, x -> x.go(10000), Ledger.STATE);
         LEDGER.due("none go twice", keeps.then(x -> x.go(100)), x -> x.go(1000), 0);
         Ledger.Story untilEver = Houses.house(0, 0, 1).then(Houses.rights("keep 99999;"));

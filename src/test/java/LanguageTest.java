@@ -1,11 +1,14 @@
 import com.sun.source.tree.AssertTree;
 import com.sun.source.tree.BinaryTree;
+import com.sun.source.tree.BlockTree;
 import com.sun.source.tree.ClassTree;
 import com.sun.source.tree.CompilationUnitTree;
 import com.sun.source.tree.DoWhileLoopTree;
 import com.sun.source.tree.ForLoopTree;
 import com.sun.source.tree.ImportTree;
+import com.sun.source.tree.InstanceOfTree;
 import com.sun.source.tree.LambdaExpressionTree;
+import com.sun.source.tree.LiteralTree;
 import com.sun.source.tree.MemberReferenceTree;
 import com.sun.source.tree.MethodInvocationTree;
 import com.sun.source.tree.MethodTree;
@@ -15,6 +18,7 @@ import com.sun.source.tree.SynchronizedTree;
 import com.sun.source.tree.ThrowTree;
 import com.sun.source.tree.Tree;
 import com.sun.source.tree.TryTree;
+import com.sun.source.tree.TypeCastTree;
 import com.sun.source.tree.VariableTree;
 import com.sun.source.tree.WhileLoopTree;
 import com.sun.source.util.JavacTask;
@@ -200,19 +204,60 @@ public final class LanguageTest extends TreePathScanner<Void, Void> {
     @Override
     public Void visitNewClass(NewClassTree tree, Void none) {
         called(tree, trees.getElement(getCurrentPath()));
+        if (isInCall() && isOwn(trees.getElement(getCurrentPath()))) {
+            outside(12, tree, "a call makes an object");
+        }
         return super.visitNewClass(tree, none);
     }
 
     @Override
     public Void visitNewArray(NewArrayTree tree, Void none) {
-        boolean inMethod = false;
-        for (TreePath path = getCurrentPath(); path != null; path = path.getParentPath()) {
-            inMethod |= path.getLeaf() instanceof MethodTree method && method.getReturnType() != null;
-        }
-        if (inMethod) {
+        if (isInCall()) {
             outside(12, tree, "a call makes an array");
         }
         return super.visitNewArray(tree, none);
+    }
+
+    /** All but constructors, and what stands beside fields. */
+    private boolean isInCall() {
+        for (TreePath path = getCurrentPath(); path != null; path = path.getParentPath()) {
+            if (path.getLeaf() instanceof MethodTree method) {
+                return method.getReturnType() != null;
+            }
+        }
+        return false;
+    }
+
+    @Override
+    public Void visitBlock(BlockTree tree, Void none) {
+        if (getCurrentPath().getParentPath().getLeaf() instanceof ClassTree) {
+            outside(5, tree, "a block that initialises");
+        }
+        return super.visitBlock(tree, none);
+    }
+
+    @Override
+    public Void visitLiteral(LiteralTree tree, Void none) {
+        Object value = tree.getValue();
+        boolean sign = value instanceof String || value instanceof Character;
+        if (sign && !String.valueOf(value).chars().allMatch(c -> c >= 1 && c <= 127)) {
+            outside(4, tree, "a sign that is not 1 to 127");
+        }
+        return super.visitLiteral(tree, none);
+    }
+
+    @Override
+    public Void visitTypeCast(TypeCastTree tree, Void none) {
+        if (!trees.getTypeMirror(getCurrentPath()).getKind().isPrimitive()) {
+            outside(6, tree, "a cast to a class");
+        }
+        return super.visitTypeCast(tree, none);
+    }
+
+    @Override
+    public Void visitInstanceOf(InstanceOfTree tree, Void none) {
+        outside(6, tree, "an instanceof, whose test is not looked for here");
+        return super.visitInstanceOf(tree, none);
     }
 
     @Override

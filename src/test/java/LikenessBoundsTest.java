@@ -64,6 +64,17 @@ public final class LikenessBoundsTest {
         }
         LEDGER.refused("no such MARK", all, x -> x.count(2, true, 0, false), Ledger.NO_SUCH);
         LEDGER.refused("no such MARK, no such OUTCOME", all, x -> x.count(-1, true, 4, false), Ledger.NO_SUCH);
+        Ledger.Story sixteen = Houses.house(16, 1, 3).then(x -> Houses.solve(x, 0, 0, 2));
+        for (int k = 0; k < 16; k++) {
+            int mark = k;
+            LEDGER.due("MARK " + k + " ahead of three STATES and behind them", sixteen, x -> {
+                int ahead = x.count(mark, true, 3, false);
+                Houses.tell(x, mark, 2, 2, 1);
+                int first = x.count(mark, true, 3, false);
+                x.tell(2, mark, 3);
+                return 100 * ahead + 10 * first + x.count(mark, true, 3, false);
+            }, 31);
+        }
         LEDGER.due("the last MARK of 16", Houses.house(16, 1, 2).then(x -> {
             Houses.solve(x, 0, 0, 1);
             Houses.tell(x, 15, 2, 1);
@@ -173,6 +184,32 @@ public final class LikenessBoundsTest {
                 x -> 100 * x.weight(0, 1, false) + 10 * x.weight(0, 2, false) + x.weight(1, 2, false), 4);
         LEDGER.due("it is the child of the lesser", great, x -> 10 * x.parent(2, false) + x.parent(1, false), 9);
         manyMarks();
+        pairs();
+    }
+
+    /** Eight times two MARKS that hang together, and no more. */
+    private static void pairs() {
+        for (int far : new int[] {1, 8, 15}) {
+            Ledger.Story story = x -> {
+                Houses.house(16, 0, 16).on(x);
+                for (int k = 0; k < 8; k++) {
+                    for (int mark : pair(k, far)) {
+                        x.tell(2 * k, mark, 2);
+                        x.tell(2 * k + 1, mark, 1);
+                    }
+                }
+            };
+            for (int k = 0; k < 8; k++) {
+                int[] pair = pair(k, far);
+                LEDGER.due("MARK " + pair[1] + " and the lesser one", story, x -> x.parent(pair[1], false), pair[0]);
+                LEDGER.due("MARK " + pair[0] + ", the lesser one", story, x -> x.parent(pair[0], false), -1);
+            }
+        }
+    }
+
+    /** Two MARKS: 0 and 1, 2 and 3 ..; 0 and 8, 1 and 9 ..; or 0 and 15, 1 and 14 .. */
+    private static int[] pair(int k, int far) {
+        return far == 1 ? new int[] {2 * k, 2 * k + 1} : new int[] {k, far == 8 ? k + 8 : 15 - k};
     }
 
     /** MARKS with these STATES of DEEDS 0, 1, 2 .. */

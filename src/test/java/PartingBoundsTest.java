@@ -10,7 +10,9 @@ public final class PartingBoundsTest {
         near();
         spent();
         sure();
+        justGreater();
         joined();
+        likeGroups();
         bound();
         LEDGER.end();
     }
@@ -194,6 +196,10 @@ public final class PartingBoundsTest {
         LEDGER.due("in some", KNOWN, x -> x.sure(three, false, 208, 4, 2), 0);
         LEDGER.due("BARRED in none at all", KNOWN, x -> x.sure(three, false, 1000000, 0, 2), 2);
         LEDGER.due("ONE in all at all", KNOWN, x -> x.sure(3, false, 1000000, 1, 0), 1);
+        Ledger.Story last = plain(60).then(x -> x.bar(57, 59));
+        LEDGER.due("the last two of 60", last, x -> x.sure(7L << 57, false, 0, 59, 58), 0);
+        LEDGER.due("BARRED ones of the last of 60", last, x -> x.sure(7L << 57, false, 0, 59, 57), 2);
+        nine();
         LEDGER.due("the first and the last of nine", plain(9).then(x -> x.bar(0, 8)),
                 x -> x.sure(NINE, false, 0, 8, 0), 2);
         LEDGER.due("the last two of nine", plain(9).then(x -> x.bar(7, 8)), x -> x.sure(NINE, false, 0, 7, 8), 2);
@@ -206,6 +212,69 @@ public final class PartingBoundsTest {
         }
         for (int t : new int[] {-1, 1000001, Integer.MIN_VALUE, Integer.MAX_VALUE}) {
             LEDGER.refused("t " + t, KNOWN, x -> x.sure(three, false, t, 0, 2), Ledger.ARGUMENT);
+        }
+    }
+
+    /** All pairs of nine: 0, 3 and 6 of one HAND, 1 and 4 of another one, 2 and 5 of a third one, 7 and 8 of none. */
+    private static void nine() {
+        Ledger.Story hands = Houses.house(1, 3, 9).then(x -> {
+            for (int deed = 0; deed < 7; deed++) {
+                x.solve(deed, deed % 3, deed % 3);
+            }
+        });
+        for (int k = 0; k < 81; k++) {
+            int a = k / 9;
+            int b = k % 9;
+            int due = a > 6 || b > 6 ? 0 : a % 3 == b % 3 ? 1 : 2;
+            if (a != b) {
+                LEDGER.due(a + " and " + b + " of nine", hands, x -> x.sure(NINE, false, 1000000, a, b), due);
+            }
+        }
+        LEDGER.due("three, four or five parts", hands, x -> x.near(NINE, false, 0), 4 * 3 + 5);
+    }
+
+    /** WORTH of two that is 1, or -1. */
+    private static void justGreater() {
+        LEDGER.promise("24 to 27");
+        long more = 0b11L << 22;
+        LEDGER.due("1 together, 0 else", there(16, 6), x -> x.best(more, false), 1);
+        LEDGER.due("in one part", there(16, 6), x -> x.part(more, false, 23), 0);
+        LEDGER.due("surely", there(16, 6), x -> 10 * x.near(more, false, 0) + x.sure(more, false, 0, 22, 23), 11);
+        LEDGER.due("not by 1", there(16, 6), x -> 10 * x.near(more, false, 1) + x.sure(more, false, 1, 22, 23), 20);
+        long less = 0b11L << 23;
+        LEDGER.due("-1 together", there(10, 13), x -> x.worth(23, 24, false), -1);
+        LEDGER.due("-1 together, 0 else", there(10, 13), x -> x.best(less, false), 0);
+        LEDGER.due("in two parts", there(10, 13), x -> x.part(less, false, 24), 1);
+        LEDGER.due("surely two", there(10, 13), x -> 10 * x.near(less, false, 0) + x.sure(less, false, 0, 23, 24), 12);
+        LEDGER.due("not so by 1", there(10, 13), x -> 10 * x.near(less, false, 1) + x.sure(less, false, 1, 23, 24), 20);
+        LEDGER.promise("28");
+        LEDGER.due("not joined", there(10, 13), x -> x.joined(24, false), 24);
+    }
+
+    /**
+     * DEEDS 6 to 11 alone COUNT, and all others are BARRED from them. 1 and 2 are joined first; then 0 or 5 with
+     * them is worth the same, and these two are BARRED from one another.
+     */
+    private static void likeGroups() {
+        LEDGER.promise("28");
+        Ledger.Story groups = Houses.house(2, 2, 12).then(x -> {
+            Houses.solve(x, 0, 6, 9);
+            Houses.solve(x, 1, 10, 11);
+            Houses.tell(x, 0, 2, 2, 2, 0, 0, 2, 2, 2, 2, 2, 1, 1);
+            Houses.tell(x, 1, 0, 2, 2, 0, 0, 0, 2, 2);
+            x.window(6, 11);
+            for (int a = 0; a < 6; a++) {
+                for (int b = 6; b < 12; b++) {
+                    x.bar(a, b);
+                }
+            }
+            x.bar(0, 5);
+        });
+        LEDGER.due("1 and 2 are most alike", groups, x -> 1000 * x.worth(1, 2, false) + x.worth(0, 1, false), 216184);
+        int[] due = {0, 0, 0, 3, 4, 5, 6, 6, 6, 6, 10, 10};
+        for (int k = 0; k < due.length; k++) {
+            int deed = k;
+            LEDGER.due("of like groups that with the lesser least DEED: " + k, groups, x -> x.joined(deed, false), due[k]);
         }
     }
 

@@ -14,6 +14,8 @@ public final class RightsBoundsTest {
         places();
         lines();
         depths();
+        joinedDepths();
+        fullDepths();
         leasts();
         faults();
         let();
@@ -341,6 +343,64 @@ public final class RightsBoundsTest {
         faulty("let if [[[[[)", 2, 12);
     }
 
+    /** Five around are as many behind any number of joined ones as at first; a sixth is one too many. */
+    private static void joinedDepths() {
+        String[] tests = {"[[[[[1=1]]]]]", "not not not not not 1=1", "[not [not [1=1]]]", "(((((1)))))=1",
+            "1=(((((1)))))", "not [[[[1=1]]]]", "not not [1=((1))]"};
+        String[] joins = {" or ", " and "};
+        for (String test : tests) {
+            StringBuilder row = new StringBuilder("let if " + test);
+            for (int k = 0; k < 4; k++) {
+                for (String join : joins) {
+                    faulty(row + join + test + ";", 0, -1);
+                    faulty(row + join + "[[[[[[1=1]]]]]];", 4, row.length() + join.length() + 5);
+                    faulty(row + join + "not not not not not not 1=1;", 4, row.length() + join.length() + 20);
+                    faulty(row + join + "((((((1))))))=1;", 4, row.length() + join.length() + 5);
+                    faulty(row + join + "[1=1" + join + "[[[[[1=1]]]]]];", 4, row.length() + 2 * join.length() + 8);
+                }
+                row.append(joins[k % 2]).append("1=1");
+            }
+        }
+        StringBuilder sum = new StringBuilder("keep 1");
+        for (int k = 0; k < 8; k++) {
+            for (String join : new String[] {"+", "-", "*"}) {
+                faulty(sum + join + "(((((1)))));", 0, -1);
+                faulty(sum + join + "((((((1))))));", 4, sum.length() + 6);
+                faulty(sum + join + "(2" + join + "(((((1))))));", 4, sum.length() + 8);
+            }
+            sum.append("+-*".charAt(k % 3)).append("(7)");
+        }
+    }
+
+    /** Within five others a TOKEN that can't stand there is told as that, whatever it is. */
+    private static void fullDepths() {
+        String[] none = {"let", "bar", "keep", "if", "or", "and", "lets", "]", ")", ";", "<", ">", "=", "+", "-", "*"};
+        String[] may = {"1", "12345", "rank", "links"};
+        for (String open : new String[] {"[[[[[", "not not not not not ", "[not [not [", "not [[not ["}) {
+            int place = 7 + open.length();
+            for (String token : none) {
+                faulty("let if " + open + token, 2, place);
+            }
+            for (String token : may) {
+                faulty("let if " + open + token, 2, place + token.length());
+                faulty("let if " + open + token + "=" + token + " let", 2, place + 2 + 2 * token.length());
+            }
+            for (String token : new String[] {"[", "(", "not"}) {
+                faulty("let if " + open + token, 4, place);
+            }
+        }
+        for (String token : none) {
+            faulty("keep (((((" + token, 2, 10);
+            faulty("let if 1=(((((" + token, 2, 14);
+        }
+        for (String token : new String[] {"[", "not"}) {
+            faulty("keep (((((" + token, 2, 10);
+            faulty("let if 1=(((((" + token, 2, 14);
+        }
+        faulty("keep ((((((", 4, 10);
+        faulty("let if 1=((((((", 4, 14);
+    }
+
     /** The first along the text; of one TOKEN the least kind. */
     private static void leasts() {
         LEDGER.promise("44");
@@ -478,6 +538,7 @@ public final class RightsBoundsTest {
         lets("let if not 1>2;", true);
         lets("let if [1<2] and [2>1];", true);
         lets("let if not not not 1=1;", false);
+        truths();
         String two62 = "32768*32768*32768*32768*4";
         lets("let if " + two62 + ">0;", true);
         lets("let if " + two62 + "*2<0;", true);
@@ -490,6 +551,30 @@ public final class RightsBoundsTest {
         lets("let if " + two62 + "*4+5=5;", true);
         lets("let if 65536*65536*65536*65536=0;", true);
         lets("let if 99999*99999*99999*99999<0;", 99999L * 99999 * 99999 * 99999 < 0);
+    }
+
+    /** Three of 0 and 1 with all that joins them. */
+    private static void truths() {
+        for (int k = 0; k < 8; k++) {
+            boolean a = (k & 1) != 0;
+            boolean b = (k & 2) != 0;
+            boolean c = (k & 4) != 0;
+            String[] is = {a ? "1=1" : "1=2", b ? "2>1" : "1>2", c ? "1<2" : "2<1"};
+            lets("let if " + is[0] + " and " + is[1] + ";", a && b);
+            lets("let if " + is[0] + " or " + is[1] + ";", a || b);
+            lets("let if " + is[0] + " and not " + is[1] + ";", a && !b);
+            lets("let if " + is[0] + " or not " + is[1] + ";", a || !b);
+            lets("let if not " + is[0] + " and " + is[1] + ";", !a && b);
+            lets("let if not " + is[0] + " or " + is[1] + ";", !a || b);
+            lets("let if " + is[0] + " or " + is[1] + " and " + is[2] + ";", a || b && c);
+            lets("let if " + is[0] + " and " + is[1] + " or " + is[2] + ";", a && b || c);
+            lets("let if " + is[0] + " and [" + is[1] + " or " + is[2] + "];", a && (b || c));
+            lets("let if [" + is[0] + " or " + is[1] + "] and " + is[2] + ";", (a || b) && c);
+            lets("let if " + is[0] + " or not [" + is[1] + " and not " + is[2] + "];", a || !(b && !c));
+            lets("let if not [not " + is[0] + " and " + is[1] + "] and not " + is[2] + ";", !(!a && b) && !c);
+            lets("let if " + is[0] + " and " + is[1] + " and " + is[2] + ";", a && b && c);
+            lets("let if " + is[0] + " or " + is[1] + " or " + is[2] + ";", a || b || c);
+        }
     }
 
     private static void asked() {
@@ -506,6 +591,20 @@ public final class RightsBoundsTest {
         }
         Ledger.Story all = HOUSE.then(Houses.rights("let;"));
         LEDGER.due("everybody is LET", all, x -> x.ask(1, 1, 1), 0);
+        Ledger.Story many = HOUSE.then(Houses.rights("let;")).then(x -> {
+            x.officer(0, 0);
+            x.mark();
+            x.tell(0, 0, 3);
+            x.tell(0, 1, 2);
+            x.tell(0, 2, 1);
+        });
+        for (int k = 0; k < 9; k++) {
+            int officer = k / 3;
+            int mark = k % 3;
+            LEDGER.due("MARK " + mark + " for OFFICER " + officer, many, x -> x.ask(officer, 0, mark), 3 - mark);
+        }
+        LEDGER.due("no OFFICER behind one", Houses.house(1, 0, 1).then(x -> x.officer(0, 0)).then(Houses.rights("let;")),
+                x -> 10 * x.ask(0, 0, 0) + x.ask(1, 0, 0), -1);
         for (int k : new int[] {-1, 2, 9, 10, 15, 16, 60, 64, Integer.MIN_VALUE, Integer.MAX_VALUE}) {
             LEDGER.due("OFFICER " + k + " when everybody is LET", all, x -> x.ask(k, 0, 0), -1);
             LEDGER.due("DEED " + k + " when everybody is LET", all, x -> x.ask(0, k, 0), -1);
@@ -539,6 +638,26 @@ public final class RightsBoundsTest {
         keeps("keep 65536*65536+7;", 99999);
         keeps("keep 7+rank*5+land*5;", 7);
         keeps("keep age+solved+doubted+there+links;", 107);
+        for (int k = 0; k < 256; k++) {
+            int states = k;
+            int there = 0;
+            for (int mark = 0; mark < 4; mark++) {
+                there += (states >> 2 * mark & 3) == 2 ? 1 : 0;
+            }
+            LEDGER.due("MARKS that are there, of STATES " + k, Houses.house(16, 0, 2).then(x -> {
+                for (int mark = 0; mark < 4; mark++) {
+                    x.tell(1, 5 * mark, states >> 2 * mark & 3);
+                    x.tell(0, 5 * mark, 2);
+                }
+                Houses.text(x, "keep 1+there;");
+            }), x -> x.kept(1), 1 + there);
+        }
+        LEDGER.due("all sixteen MARKS", Houses.house(16, 0, 1).then(x -> {
+            for (int mark = 0; mark < 16; mark++) {
+                x.tell(0, mark, 2);
+            }
+            Houses.text(x, "keep there*100;");
+        }), x -> x.kept(0), 1600);
         keeps("keep 5;keep 6;let;", 6);
         keeps("keep 5;keep 6 if 1=2;", 5);
         keeps("keep 5 if 1=2;keep 6 if 2=1;", -1);

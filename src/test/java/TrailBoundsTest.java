@@ -259,6 +259,7 @@ public final class TrailBoundsTest {
         LEDGER.refused("no such MAP, no such DEED", kept(0), x -> x.came(0, 3), Ledger.NO_SUCH);
         LEDGER.due("it is KEPT as it was", kept(1).then(x -> x.place(0, 9, 0)).then(x -> x.solve(0, 0, 0))
                 .then(x -> x.solve(2, 0, 0)), x -> x.came(0, 2), false);
+        keptAsLikely();
         LEDGER.promise("36");
         LEDGER.due("not known: true", kept(3), x -> x.record(true), 0);
         LEDGER.due("not known: didn't", kept(3), x -> x.record(false), 0);
@@ -269,6 +270,45 @@ public final class TrailBoundsTest {
                 x.came(k, 0);
             }
         }), x -> 10 * x.record(true) + x.record(false), 200);
+    }
+
+    /** PLACES in DISTANCES 0, 5, 20, 70 with a DEED at each; STEPS of three SOONs, each of another FAR. */
+    private static final Ledger.Story TRAILS = x -> {
+        x.place(0, 0, 0);
+        x.place(5, 0, 0);
+        x.place(20, 0, 0);
+        x.place(70, 0, 0);
+        x.hand(OneHand.NONE);
+        x.go(2000);
+        for (int place = 0; place < 4; place++) {
+            x.deed(place, 0, 0);
+        }
+        int[] goes = {0, 0, 0, 1, 1, 3, 3, 1, 1, 2};
+        int[] hours = {10, 11, 12, 50, 51, 52, 99, 300, 1100, 1101};
+        for (int k = 0; k < goes.length; k++) {
+            x.deed(goes[k], hours[k], hours[k]);
+            x.solve(4 + k, 0, 0);
+        }
+    };
+
+    private static void keptAsLikely() {
+        LEDGER.promise("34");
+        for (int deed = 0; deed < 4; deed++) {
+            for (int soon = 0; soon < 4; soon++) {
+                for (int s : new int[] {1, 2500, 5000, 9000, 10000}) {
+                    int d = deed;
+                    int o = soon;
+                    int due = Ledger.made(TRAILS).likely(deed, soon, s);
+                    LEDGER.due("KEPT behind DEED " + d + " by SOON " + o + " and " + s, TRAILS, x -> {
+                        int places = 0;
+                        for (int place = 0; place < 4; place++) {
+                            places |= x.came(x.keep(d, o, s), place) ? 1 << place : 0;
+                        }
+                        return places;
+                    }, due);
+                }
+            }
+        }
     }
 
     private static void stopped() {
@@ -302,6 +342,23 @@ public final class TrailBoundsTest {
             Houses.solve(x, 0, 0, 1);
             Houses.tell(x, 0, 2, 2, 2, 0);
         }), x -> !x.stopped(0, false) && !x.stopped(2, false) && x.stopped(3, false), true);
+        Ledger.Story group = Houses.house(1, 2, 0).then(x -> {
+            x.deed(0, 0, 0);
+            x.deed(0, 50, 50);
+            x.deed(0, 0, 0);
+            x.deed(0, 51, 51);
+            x.deed(0, 0, 0);
+            x.deed(0, 1, 1);
+            Houses.solve(x, 0, 0, 1);
+            Houses.tell(x, 0, 2, 2, 2, 2, 2, 0);
+        });
+        for (int k = 0; k < 5; k++) {
+            int deed = k;
+            LEDGER.due("DEED " + k + " of a group with a later one", group, x -> x.stopped(deed, false), false);
+            LEDGER.due("DEED " + k + " an HOUR ahead", group.then(x -> x.go(1)), x -> x.stopped(deed, false), false);
+            LEDGER.due("DEED " + k + " an HOUR later", group.then(x -> x.go(2)), x -> x.stopped(deed, false), k < 5);
+        }
+        LEDGER.due("of no group with others", group, x -> x.stopped(5, false), true);
         LEDGER.due("the latest from is HOUR 0", Houses.house(1, 1, 1).then(x -> {
             x.deed(0, 100, 100);
             Houses.solve(x, 0, 0, 1);
@@ -340,6 +397,19 @@ public final class TrailBoundsTest {
         LEDGER.due("0 and 10, or 10 and 0, together", all, x -> x.guess(0b11), 0);
         LEDGER.due("two of them", all, x -> x.guess(0b111), 1);
         LEDGER.due("two and two", all, x -> x.guess(0b1111), 0);
+        Ledger.Story near = x -> {
+            x.place(0, 0, 0);
+            x.place(1, 0, 0);
+            x.place(0, 2, 0);
+            x.deed(0, 0, 0);
+            x.deed(1, 0, 0);
+            x.deed(1, 0, 0);
+            x.deed(2, 0, 0);
+        };
+        LEDGER.due("1 is less than 2", near, x -> x.guess(0b111), 1);
+        LEDGER.due("0 is less than 1", near, x -> x.guess(0b10), 1);
+        LEDGER.due("3 of like ones is the lesser PLACE's", near, x -> x.guess(0b1010), 0);
+        LEDGER.due("3 is less than 4", near, x -> x.guess(0b1110), 1);
         LEDGER.due("at a PLACE of none of them", x -> {
             x.place(0, 4, 0);
             x.place(4, 0, 0);
@@ -382,6 +452,20 @@ public final class TrailBoundsTest {
         LEDGER.due("one of them DOUBTED", two.then(x -> x.doubt(0, true)), x -> x.homes(198, true) + x.homes(0, false), 0);
         LEDGER.due("one of them FORGOTTEN", two.then(x -> x.forget(0)), x -> x.homes(198, true) + x.homes(0, false), 0);
         LEDGER.due("a HAND without a HOME", step(9, 0), x -> x.homes(198, true) + x.homes(198, false), 0);
+        Ledger.Story line = x -> {
+            x.place(20, 0, 0);
+            x.place(10, 0, 0);
+            x.place(0, 0, 0);
+            x.hand(0);
+            x.go(100);
+            for (int place = 2; place >= 0; place--) {
+                x.deed(place, 0, 0);
+            }
+            Houses.solve(x, 0, 1, 2);
+        };
+        LEDGER.due("GUESS of its own DEEDS alone", line, x -> 10 * x.homes(0, true) + x.homes(0, false), 10);
+        LEDGER.due("GUESS of all its DEEDS", line.then(x -> x.solve(0, 0, 0)),
+                x -> 10 * x.homes(9, true) + x.homes(9, false), 1);
         LEDGER.due("HAND 0", Houses.house(0, 0, 2).then(x -> x.hand(0)).then(x -> Houses.solve(x, 0, 0, 1)),
                 x -> x.homes(0, true), 1);
         LEDGER.due("the 20th HAND", two.then(x -> {

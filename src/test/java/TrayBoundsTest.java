@@ -60,7 +60,39 @@ public final class TrayBoundsTest {
             x.tray(0, 0, 3);
             x.take(0, 0);
         }), x -> x.state(0, 2, true), 0);
+        laidAgain();
         LEDGER.due("others are as they were", laid(1, 3, 5).then(laid(0, 0, 0)), x -> x.write(1, 4, 1L << 40), 1L << 40);
+    }
+
+    /** Four TRAYS of STATES of their own, one of which is laid again, of any sort: 0s in that one alone. */
+    private static void laidAgain() {
+        Ledger.Story four = HOUSE.then(x -> {
+            for (int tray = 0; tray < 4; tray++) {
+                x.tray(tray, tray, 16);
+                for (int place = 0; place < 16; place++) {
+                    x.write(tray, place, 1 + (tray + place) % 3);
+                }
+            }
+        });
+        for (int k = 0; k < 16; k++) {
+            int again = k / 4;
+            int sort = k % 4;
+            for (int tray = 0; tray < 4; tray++) {
+                int taken = tray;
+                StringBuilder due = new StringBuilder("16:");
+                for (int place = 0; place < 16; place++) {
+                    due.append(tray == again ? 0 : 1 + (tray + place) % 3);
+                }
+                LEDGER.due("TRAY " + tray + " when " + again + " is laid in sort " + sort, four, x -> {
+                    x.tray(again, sort, 16);
+                    StringBuilder is = new StringBuilder(x.take(taken, 0) + ":");
+                    for (int mark = 0; mark < 16; mark++) {
+                        is.append(x.state(0, mark, true));
+                    }
+                    return is;
+                }, due);
+            }
+        }
     }
 
     /** Sixteen MARKS and two DEEDS. */
